@@ -499,7 +499,6 @@ public final class ProofReader {
         boolean sentence() {
             start = tokens.start;
             question = tokens.kind == '?';
-            proved = false;
             if (!question && !nameAndColon()) {
                 return false;
             }
@@ -729,7 +728,6 @@ public final class ProofReader {
             end = from;
             top = -1;
             push(code.second(t), variable);
-            base[0] = variable + 1;
             for (int steps = 0; steps < MOST_STEPS && top >= 0; steps++) {
                 if (at[top] >= stop[top]) {
                     top--;
@@ -754,18 +752,21 @@ public final class ProofReader {
             shift[top] = level - code.level[p];
         }
 
+        /** Goes on from the node at p; false if there is no room for what that makes. */
         private boolean step(int p) {
             int v = code.head[p] - Code.VARIABLES;
             int level = code.level[p] + shift[top];
             boolean even = top % 2 == 0;
             boolean replaced = even ? v == variable : v >= variable && v < base[top];
+            if (replaced ? top + 1 >= MOST_FRAMES : end - from >= MOST_NODES) {
+                return false;
+            }
             if (!replaced) {
                 int head = v < variable ? code.head[p] : code.head[p] + shiftOf(v);
+                code.write(end, head, code.arity[p], level);
+                end++;
                 at[top]++;
-                return write(head, code.arity[p], level);
-            }
-            if (top + 1 >= MOST_FRAMES) {
-                return false;
+                return true;
             }
             at[top] += code.size[p];
             if (even) {
@@ -784,15 +785,6 @@ public final class ProofReader {
                 frame -= 2;
             }
             return shift[frame];
-        }
-
-        private boolean write(int head, int arity, int level) {
-            if (end - from >= MOST_NODES) {
-                return false;
-            }
-            code.write(end, head, arity, level);
-            end++;
-            return true;
         }
     }
 
@@ -822,7 +814,7 @@ public final class ProofReader {
         }
 
         /** Checks a type, or, where this will do too, a kind. */
-        boolean type(int p, boolean kindToo, boolean inFirstPart) {
+        private boolean type(int p, boolean kindToo, boolean inFirstPart) {
             switch (code.head[p]) {
                 case Code.FUNCTION:
                     return wrong(WRONG_SORT, p);
@@ -856,12 +848,12 @@ public final class ProofReader {
             if (!isObjectHead(code.head[p])) {
                 return wrong(WRONG_SORT, p);
             }
-            liftHeadType(p, work);
+            code.lift(headType(p), work, code.level[p]);
             return fit(p, work);
         }
 
         /** Checks an object against the type that stands at t; nodes from free on are free. */
-        boolean object(int p, int t, int free) {
+        private boolean object(int p, int t, int free) {
             if (code.head[p] != Code.FUNCTION) {
                 return application(p, t, free);
             }
@@ -879,7 +871,7 @@ public final class ProofReader {
             if (code.head[t] == Code.PRODUCT) {
                 return wrong(MISFIT, p);
             }
-            liftHeadType(p, free);
+            code.lift(headType(p), free, code.level[p]);
             if (!fit(p, free)) {
                 return false;
             }
@@ -893,10 +885,9 @@ public final class ProofReader {
             return head >= Code.VARIABLES || head >= 0 && !constants.isFamily(head);
         }
 
-        private void liftHeadType(int p, int to) {
+        private int headType(int p) {
             int head = code.head[p];
-            int type = head >= Code.VARIABLES ? typeOf[head - Code.VARIABLES] : constants.root[head];
-            code.lift(type, to, code.level[p]);
+            return head >= Code.VARIABLES ? typeOf[head - Code.VARIABLES] : constants.root[head];
         }
 
         /**
@@ -965,7 +956,6 @@ public final class ProofReader {
             root = p;
             closing = 0;
             paper.overrun = false;
-            isArgument[0] = false;
             for (int q = p; q < end; q++) {
                 close(q);
                 markParts(q);

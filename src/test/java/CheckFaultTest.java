@@ -109,7 +109,8 @@ public final class CheckFaultTest {
 
     private static void tooLarge() {
         Desk d = desk().reads(1, "b : {F:a -> a} q (F (F (F (F (F (F (F (F c)))))))).");
-        d.fails(10, "? b (^[x] t x x).").fails(10, "k : q c -> q c = [u] b ((^[x] t x x)).").reads(1, "? b ([x] t c x).");
+        d.fails(10, "? b (^[x] t x x).").prints("q c", "? b ([x] x).");
+        d.fails(10, "k : q c -> q c = [u] b ((^[x] t x x)).").prints("q (f (f (f (f (f (f (f (f c))))))))", "? b ([x] f x).");
         // p and 255 nodes stand before the second argument's, so 44 of these are not too many
         Desk n = desk().reads(2, "p : a -> a -> type. b : {F:a -> a}{x:a} p (F (F (F (F (F (F (F c))))))) x.");
         n.reads(1, "? b ([x] t x x) (" + object(44) + ").").fails(10, "? b ([x] t x x) (^" + object(45) + ").");

@@ -76,7 +76,10 @@ public final class FaceTest {
         Desk.due("read", x.read(), 0);
         Desk.due("read() gives no room", x.feed(1, blanks), -1);
         x.clear();
-        Desk.due("clear() does", x.feed(8, blanks), 8);
+        for (int i = 1; i <= 1024; i++) {
+            Desk.due("clear() does", x.feed(8, blanks), i * 8L);
+        }
+        Desk.due("feed beyond the bound", x.feed(1, blanks), -1);
     }
 
     private static void read() {
@@ -116,6 +119,11 @@ public final class FaceTest {
         Desk.due("clear() again", d.reader.clear(), 0);
         d.fails(3, "b : ^a.");
         d.reads(2, "b : type. a : b.").tells(1, 0, 0, 1, 0, 0, 0);
+        // what was told is gone: there is room for as much anew
+        for (int i = 0; i < 400; i++) {
+            d.reader.clear();
+            d.reads(3, "b : type. p : " + Desk.repeat("(b -> b) -> ", 36) + "b. q : " + Desk.repeat("{x:b}", 40) + "b.");
+        }
     }
 
     private static void constants() {

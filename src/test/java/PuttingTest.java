@@ -7,6 +7,7 @@ public final class PuttingTest {
         functions();
         captures();
         deep();
+        wide();
         natural();
         Desk.end();
     }
@@ -98,6 +99,16 @@ public final class PuttingTest {
         d.prints("q (" + body + ")", "? b ([x] " + alls + ").");
         d.reads(1, "g : {F:a -> a} ({y:a} q (F y)) -> q (" + inner + ") -> a.").reads(1, "h : ({y:a} q (" + nest.replace('x', 'y') + ")) -> a = [u] g ([x] "
                 + nest + ") ([y] u y) (b ([x] " + nest + ")).");
+    }
+
+    /** As many types as can be, of as many nodes as they can have, are worked on at once. */
+    private static void wide() {
+        Desk d = desk().reads(1, "p : " + Desk.repeat("a -> ", 29) + "type.");
+        String type = "p" + Desk.repeat(" (t c (t c c))", 29);
+        d.reads(2, "u : " + type + ". k : " + type + " -> " + type + ".").tells(10, 0, 1, 293, 1, 0, 8);
+        d.prints(type, "? k (" + Desk.repeat("k (", 39) + "k u" + Desk.repeat(")", 40) + ".");
+        d.reads(1, "w : " + type + " = k (" + Desk.repeat("k (", 39) + "k u" + Desk.repeat(")", 40) + ".");
+        d.fails(9, "v : " + type + " = k (" + Desk.repeat("k (", 39) + "k ^c" + Desk.repeat(")", 40) + ".");
     }
 
     private static void natural() {

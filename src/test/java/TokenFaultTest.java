@@ -77,6 +77,7 @@ public final class TokenFaultTest {
         // a variable hides the constant with its name, and the outer one
         Desk d = desk().reads(2, "q : a -> a -> type. r : {c:a}{x:a}{c:a} q c x.");
         d.prints("{x0:a}{x1:a}{x2:a}q x2 x1", "? r.").prints("{x0:a}{x1:a}q x1 c", "s : {r:a}{x:a} q x c. ? s.");
+        d.prints("{x0:a}{x1:a}q x0 x1", "abcdefghijk1 : {abcdefghijk2:a}{abcdefghijk3:a} q abcdefghijk2 abcdefghijk3. ? abcdefghijk1.");
         d.fails(6, "u : {a:a}^a.").fails(6, "u : {a:a}{b:^a} q a b.").reads(1, "u : {a:a} q a a.");
     }
 
