@@ -61,7 +61,7 @@ public final class CheckFaultTest {
     private static void wrongSortOfQuestion() {
         desk().fails(6, "? ^type.").fails(6, "? ^a.").fails(6, "? ^q c.").fails(6, "? ^[x] x.").fails(6, "? ^{x:a} a.").fails(6, "? ^a -> a.");
         desk().fails(6, "? ((^a) -> a).").fails(6, "? (^type).").fails(6, "? (^[x] c).").fails(6, "? ^q type.").reads(1, "? (((c))).");
-        Desk.due("a question that can't be is not printed", desk().fails(6, "? ^a.").reader.printed(), 0);
+        Desk.due("a question that can't be is not printed", desk().fails(6, "? ^a.").printed(), 0);
     }
 
     private static void tooHigh() {
@@ -141,24 +141,24 @@ public final class CheckFaultTest {
         for (int i = 0; i < 315; i += 45) {
             d.reads(45, Desk.repeat("?b.", 45));
         }
-        Desk.due("printed()", d.reader.printed(), 4095);
+        Desk.due("printed()", d.printed(), 4095);
         d.fails(11, " ^? b.").fails(11, "^? b.");
-        Desk.due("printed()", d.reader.printed(), 4095);
-        Desk.due("paper(4088)", d.reader.paper(4088), 0x000a6c6b6a696867L);
+        Desk.due("printed()", d.printed(), 4095);
+        Desk.due("paper(4088)", d.paper(4088), 0x000a6c6b6a696867L);
         d.reads(1, "z : type.").fails(11, "y : z. ^? y. x : z.");
-        Desk.due("constants()", d.reader.constants(), 4);
+        Desk.due("constants()", d.constants(), 4);
         d.fails(6, "? ^z.");
-        Desk.due("wipe()", d.reader.wipe(), 4095);
+        Desk.due("wipe()", d.wipe(), 4095);
         d.prints("abcdefghijkl", "? b.");
         // to the last byte
         Desk f = new Desk().reads(2, "abcdefg : type. b : abcdefg.");
         for (int i = 0; i < 512; i += 64) {
             f.reads(64, Desk.repeat("?b.", 64));
         }
-        Desk.due("printed()", f.reader.printed(), 4096);
-        Desk.due("paper(4088)", f.reader.paper(4088), 0x0a67666564636261L);
+        Desk.due("printed()", f.printed(), 4096);
+        Desk.due("paper(4088)", f.paper(4088), 0x0a67666564636261L);
         f.fails(11, "^? b.");
-        Desk.due("wipe()", f.reader.wipe(), 4096);
+        Desk.due("wipe()", f.wipe(), 4096);
     }
 
     private static void leftToRight() {

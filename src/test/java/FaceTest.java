@@ -86,42 +86,42 @@ public final class FaceTest {
         new Desk().reads(0, "").reads(0, " \n\t\0 ").reads(1, "a:type.").reads(2, "b:a.\n?b.\n ");
         Desk d = new Desk();
         d.fails(3, "a : type. b : a. ? b. c : ^d. e : a.");
-        Desk.due("what was before the fault is read", d.reader.constants(), 2);
+        Desk.due("what was before the fault is read", d.constants(), 2);
         Desk.due("and printed", d.paper(), "a\n");
         d.reads(1, "e : a.");
-        Desk.due("the faulty text is gone", d.reader.constants(), 3);
+        Desk.due("the faulty text is gone", d.constants(), 3);
         d.fails(2, "f : a. g : a^");
-        Desk.due("read() of an empty text has no fault", d.reader.read(), 0);
-        Desk.due("fault()", d.reader.fault(), 0);
-        Desk.due("place()", d.reader.place(), -1);
+        Desk.due("read() of an empty text has no fault", d.read(), 0);
+        Desk.due("fault()", d.fault(), 0);
+        Desk.due("place()", d.place(), -1);
     }
 
     private static void faultStays() {
         Desk d = new Desk();
         d.fails(3, "a : ^b.");
         d.feed("a : type.");
-        d.reader.wipe();
-        d.reader.clear();
-        Desk.due("fault() behind clear()", d.reader.fault(), 3);
-        Desk.due("place() behind clear()", d.reader.place(), 4);
-        Desk.due("the text is gone", d.reader.read(), 0);
-        Desk.due("fault() behind read()", d.reader.fault(), 0);
+        d.wipe();
+        d.clear();
+        Desk.due("fault() behind clear()", d.fault(), 3);
+        Desk.due("place() behind clear()", d.place(), 4);
+        Desk.due("the text is gone", d.read(), 0);
+        Desk.due("fault() behind read()", d.fault(), 0);
     }
 
     private static void clear() {
-        Desk d = new Desk();
+        Desk d = new Desk().endless();
         d.reads(3, "a : type. b : a. ? b.").feed("c : a.");
-        Desk.due("clear()", d.reader.clear(), 2);
-        Desk.due("constants()", d.reader.constants(), 0);
-        Desk.due("printed()", d.reader.printed(), 0);
-        Desk.due("paper(0)", d.reader.paper(0), 0);
-        Desk.due("feed(1) behind clear()", d.reader.feed(1, ' '), 1);
-        Desk.due("clear() again", d.reader.clear(), 0);
+        Desk.due("clear()", d.clear(), 2);
+        Desk.due("constants()", d.constants(), 0);
+        Desk.due("printed()", d.printed(), 0);
+        Desk.due("paper(0)", d.paper(0), 0);
+        Desk.due("feed(1) behind clear()", d.feed(1, ' '), 1);
+        Desk.due("clear() again", d.clear(), 0);
         d.fails(3, "b : ^a.");
         d.reads(2, "b : type. a : b.").tells(1, 0, 0, 1, 0, 0, 0);
         // what was told is gone: there is room for as much anew
         for (int i = 0; i < 400; i++) {
-            d.reader.clear();
+            d.clear();
             d.reads(3, "b : type. p : " + Desk.repeat("(b -> b) -> ", 36) + "b. q : " + Desk.repeat("{x:b}", 40) + "b.");
         }
     }
@@ -137,47 +137,39 @@ public final class FaceTest {
         d.reads(1, "low : (o -> o) -> type.").tells(6, 1, 1, 5, 2, 0, -1);
         d.reads(1, "both : (o -> o) -> o -> o.").tells(7, 0, 2, 7, 2, 0, 0);
         d.reads(1, "par : ((((o)))).").tells(8, 0, 0, 1, 0, 0, 0);
-        Desk.due("constants()", d.reader.constants(), 9);
+        Desk.due("constants()", d.constants(), 9);
         d.reads(1, "? id.");
-        Desk.due("a question tells none", d.reader.constants(), 9);
+        Desk.due("a question tells none", d.constants(), 9);
         d.reads(1, "far : (o -> o -> o) -> {x:o} low ([y] imp x y) -> nd x.").tells(9, 0, 3, 16, 2, 0, 2);
     }
 
     private static void constantThrows() {
         Desk d = new Desk();
         d.reads(1, "a : type.");
-        Desk.due("constant(0, -1)", thrown(d, 0, -1), "IllegalArgumentException");
-        Desk.due("constant(0, 6)", thrown(d, 0, 6), "IllegalArgumentException");
-        Desk.due("constant(1, 0)", thrown(d, 1, 0), "IndexOutOfBoundsException");
-        Desk.due("constant(-1, 5)", thrown(d, -1, 5), "IndexOutOfBoundsException");
-        Desk.due("constant(MAX, 0)", thrown(d, Integer.MAX_VALUE, 0), "IndexOutOfBoundsException");
-        Desk.due("constant(1, 6)", thrown(d, 1, 6), "IllegalArgumentException");
-        d.reader.clear();
-        Desk.due("constant(0, 0)", thrown(d, 0, 0), "IndexOutOfBoundsException");
-    }
-
-    private static String thrown(Desk d, int k, int what) {
-        try {
-            return Integer.toString(d.reader.constant(k, what));
-        } catch (IllegalArgumentException | IndexOutOfBoundsException e) {
-            return e.getClass().getSimpleName();
-        }
+        Desk.due("constant(0, -1)", d.constantThrows(0, -1), "IllegalArgumentException");
+        Desk.due("constant(0, 6)", d.constantThrows(0, 6), "IllegalArgumentException");
+        Desk.due("constant(1, 0)", d.constantThrows(1, 0), "IndexOutOfBoundsException");
+        Desk.due("constant(-1, 5)", d.constantThrows(-1, 5), "IndexOutOfBoundsException");
+        Desk.due("constant(MAX, 0)", d.constantThrows(Integer.MAX_VALUE, 0), "IndexOutOfBoundsException");
+        Desk.due("constant(1, 6)", d.constantThrows(1, 6), "IllegalArgumentException");
+        d.clear();
+        Desk.due("constant(0, 0)", d.constantThrows(0, 0), "IndexOutOfBoundsException");
     }
 
     private static void paper() {
         Desk d = new Desk();
         d.reads(3, "abcdefgh : type. b : abcdefgh. ? b.");
-        Desk.due("printed()", d.reader.printed(), 9);
-        Desk.due("paper(0)", d.reader.paper(0), 0x6867666564636261L);
-        Desk.due("paper(1)", d.reader.paper(1), 0x0a68676665646362L);
-        Desk.due("paper(2)", d.reader.paper(2), 0x000a686766656463L);
-        Desk.due("paper(8)", d.reader.paper(8), 0x0aL);
-        Desk.due("paper(9)", d.reader.paper(9), 0);
-        Desk.due("paper(-1)", d.reader.paper(-1), 0x6766656463626100L);
-        Desk.due("paper(-7)", d.reader.paper(-7), 0x6100000000000000L);
-        Desk.due("paper(-8)", d.reader.paper(-8), 0);
-        Desk.due("paper(MIN)", d.reader.paper(Integer.MIN_VALUE), 0);
-        Desk.due("paper(MAX)", d.reader.paper(Integer.MAX_VALUE), 0);
+        Desk.due("printed()", d.printed(), 9);
+        Desk.due("paper(0)", d.paper(0), 0x6867666564636261L);
+        Desk.due("paper(1)", d.paper(1), 0x0a68676665646362L);
+        Desk.due("paper(2)", d.paper(2), 0x000a686766656463L);
+        Desk.due("paper(8)", d.paper(8), 0x0aL);
+        Desk.due("paper(9)", d.paper(9), 0);
+        Desk.due("paper(-1)", d.paper(-1), 0x6766656463626100L);
+        Desk.due("paper(-7)", d.paper(-7), 0x6100000000000000L);
+        Desk.due("paper(-8)", d.paper(-8), 0);
+        Desk.due("paper(MIN)", d.paper(Integer.MIN_VALUE), 0);
+        Desk.due("paper(MAX)", d.paper(Integer.MAX_VALUE), 0);
         d.reads(1, "? b.");
         Desk.due("printing comes behind", d.paper(), "abcdefgh\nabcdefgh\n");
     }
@@ -185,12 +177,12 @@ public final class FaceTest {
     private static void wipe() {
         Desk d = new Desk();
         d.reads(4, "a : type. b : a. ? b. ? b.").feed("? b.");
-        Desk.due("wipe()", d.reader.wipe(), 4);
-        Desk.due("printed()", d.reader.printed(), 0);
-        Desk.due("paper(0)", d.reader.paper(0), 0);
-        Desk.due("wipe() again", d.reader.wipe(), 0);
-        Desk.due("the text stays", d.reader.read(), 1);
-        Desk.due("the constants stay", d.reader.constants(), 2);
-        Desk.due("paper(0)", d.reader.paper(0), 0x0a61L);
+        Desk.due("wipe()", d.wipe(), 4);
+        Desk.due("printed()", d.printed(), 0);
+        Desk.due("paper(0)", d.paper(0), 0);
+        Desk.due("wipe() again", d.wipe(), 0);
+        Desk.due("the text stays", d.read(), 1);
+        Desk.due("the constants stay", d.constants(), 2);
+        Desk.due("paper(0)", d.paper(0), 0x0a61L);
     }
 }

@@ -23,14 +23,14 @@ public final class SoupTest {
             for (int n = random.nextInt(40); n > 0; n--) {
                 s.append(TOKENS[random.nextInt(TOKENS.length)]).append(random.nextInt(4) == 0 ? "" : " ");
             }
-            int before = d.reader.constants();
+            int before = d.constants();
             d.feed(s.toString());
-            int read = d.reader.read();
-            int fault = d.reader.fault();
+            int read = d.read();
+            int fault = d.fault();
             Desk.due("a fault or none", fault >= 0 && fault <= 11 ? 1 : 0, 1);
             Desk.due("NONE with a fault alone", read == -1 ? 1 : 0, fault != 0 ? 1 : 0);
-            Desk.due("the place is in the text", d.reader.place() >= (fault == 0 ? -1 : 0) && d.reader.place() <= s.length() ? 1 : 0, 1);
-            Desk.due("constants stay", d.reader.constants() >= before ? 1 : 0, 1);
+            Desk.due("the place is in the text", d.place() >= (fault == 0 ? -1 : 0) && d.place() <= s.length() ? 1 : 0, 1);
+            Desk.due("constants stay", d.constants() >= before ? 1 : 0, 1);
         }
     }
 
@@ -38,13 +38,12 @@ public final class SoupTest {
     private static void deepest() {
         for (String open : new String[] {"(", "{x:", "[x]", "a -> ", "{x:a}", "t c (", "t (", "g ([x] ", "q (t (", "a -> (", "({x:a}", "{x:(", "c ->"}) {
             for (String start : new String[] {"b : ", "? ", "b : a = ", "b : {x:a} q x = [x] e "}) {
-                Desk d = new Desk().reads(6, BASE);
                 for (int times = 18; times < 44; times++) {
-                    d.reader.clear();
+                    Desk d = new Desk();
                     d.feed(BASE + start + open.repeat(times) + "c" + ")".repeat(times) + ".");
-                    Desk.due("read of " + start + open, d.reader.read() <= 7 ? 1 : 0, 1);
+                    Desk.due("read of " + start + open, d.read() <= 7 ? 1 : 0, 1);
                     d.feed(start + open.repeat(times) + "c" + "}".repeat(times) + ".");
-                    Desk.due("read of " + start + open, d.reader.read() <= 7 ? 1 : 0, 1);
+                    Desk.due("read of " + start + open, d.read() <= 7 ? 1 : 0, 1);
                 }
             }
         }
@@ -53,9 +52,9 @@ public final class SoupTest {
     /** The same calls give the same answers, on a used object behind clear(), too. */
     private static void same() {
         Random random = new Random(7);
-        Desk used = new Desk();
+        Desk used = new Desk().endless();
         for (int run = 0; run < 200; run++) {
-            used.reader.clear();
+            used.clear();
             Desk fresh = new Desk();
             StringBuilder s = new StringBuilder(BASE).append("? g ([x] x). k : {x:a}");
             for (int n = random.nextInt(30); n > 0; n--) {
@@ -63,9 +62,9 @@ public final class SoupTest {
             }
             used.feed(s.toString());
             fresh.feed(s.toString());
-            Desk.due("read of " + s, used.reader.read(), fresh.reader.read());
-            Desk.due("fault of " + s, used.reader.fault(), fresh.reader.fault());
-            Desk.due("place of " + s, used.reader.place(), fresh.reader.place());
+            Desk.due("read of " + s, used.read(), fresh.read());
+            Desk.due("fault of " + s, used.fault(), fresh.fault());
+            Desk.due("place of " + s, used.place(), fresh.place());
             Desk.due("paper of " + s, used.paper(), fresh.paper());
         }
     }

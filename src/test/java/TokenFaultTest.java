@@ -58,7 +58,7 @@ public final class TokenFaultTest {
         desk().fails(2, "b : a -> a ^{x:a} a.").fails(2, "b : a ^[x] a.").fails(2, "b : a. ^. c : a.");
         // the first sentence is read before the second one is looked at
         Desk d = desk().fails(2, "b : a. ^: $");
-        Desk.due("constants()", d.reader.constants(), 4);
+        Desk.due("constants()", d.constants(), 4);
     }
 
     private static void textEnds() {
@@ -95,9 +95,9 @@ public final class TokenFaultTest {
         }
         d.tells(47, 0, 0, 1, 0, 0, 0);
         d.fails(4, "^c48 : a.").fails(4, "^c48").fails(4, "? c47. ^c48 : a = c1.").fails(4, "^a : a.").reads(1, "? c47.");
-        Desk.due("constants()", d.reader.constants(), 48);
+        Desk.due("constants()", d.constants(), 48);
         d.fails(1, "^ccccccccccccc : a.").fails(2, "^type : a.");
-        Desk.due("clear()", d.reader.clear(), 48);
+        Desk.due("clear()", d.clear(), 48);
         d.reads(1, "c48 : type.");
     }
 
