@@ -41,6 +41,7 @@ public final class CheckFaultTest {
         desk().fails(6, "b : (a -> ^type) -> a.").fails(6, "b : {x:{y:a}^type} type.").fails(6, "b : (a -> {y:a} ^type) -> a.");
         desk().fails(6, "b : ^c.").fails(6, "b : ^f c.").fails(6, "b : a -> ^c.").fails(6, "b : ^c -> a.").fails(6, "b : {x:a} ^x.");
         desk().fails(6, "b : {x:a}{y:^x} a.").fails(6, "b : {x:a} ((^x)) -> a.").fails(6, "b : {x:a -> a} ^x c.");
+        desk().fails(6, "b : {x:a}{y:a} ^y.").fails(6, "b : {x:a}{y:a} ^x -> a.").fails(6, "b : {x:a}{y:a}{z:^y} a.").fails(6, "b : {x:a}{y:a -> a}{z:^y x} a.");
         desk().fails(6, "b : ^type = c.").fails(6, "b : a -> ^type = [x] c.").fails(6, "b : {x:a} q x -> ^type = c.").fails(6, "b : (^[x] a) = c.");
         desk().reads(1, "b : (type).").reads(1, "d : a -> (type).").reads(1, "g : (a) -> (a -> (type)).");
     }

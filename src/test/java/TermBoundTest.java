@@ -36,6 +36,9 @@ public final class TermBoundTest {
         paperUpTo4096();
         paperUpTo4096ByOneQuestion();
         paperAndConstants();
+        numbersOfVariables();
+        lastConstant();
+        variablesOfEachLevel();
         placesInParentheses();
         Desk.end();
     }
@@ -444,6 +447,52 @@ public final class TermBoundTest {
         d.reads(1, "g : abcdefg.").fails(6, "? ^abcdefg.").fails(8, "? c ^c.").fails(11, "^? c.");
         Desk.due("wipe()", d.wipe(), 4096);
         d.prints("abcdefg", "? g.");
+    }
+
+    /** Printing: numbers of one, two and three figures. */
+    private static void numbersOfVariables() {
+        StringBuilder type = new StringBuilder();
+        for (int i = 0; i < 40; i++) {
+            type.append("{x").append(i).append(":a}");
+        }
+        desk().prints(type + "p x9 x10", "b : " + type + "p x9 x10. ? b.");
+        // nine F that become 29 functions each, one in the other
+        String most = Desk.repeat("a -> ", 29) + "a";
+        Desk d = desk().reads(2, "al : (" + most + ") -> a. b : {F:a -> a} q (" + Desk.nest("F", 9, "c") + ").");
+        d.prints("q (" + functions(0, "c") + ")", "? b ([y] al (" + Desk.repeat("[z]", 29) + "t z y)).");
+        d.prints("q (" + Desk.nest("f", 9, "c") + ")", "? b ([y] f y).");
+    }
+
+    /** Nine times 29 functions around t, with the variable of the last one, and the next ones. */
+    private static String functions(int level, String end) {
+        if (level == 9 * 29) {
+            return end;
+        }
+        StringBuilder s = new StringBuilder("al (");
+        for (int i = level; i < level + 29; i++) {
+            s.append("[x").append(i).append(']');
+        }
+        String rest = functions(level + 29, end);
+        return s.append("t x").append(level + 28).append(rest.equals(end) ? " " + end : " (" + rest + ")").append(")").toString();
+    }
+
+    /** The 48th constant is no variable, nor is the first variable a constant. */
+    private static void lastConstant() {
+        told(47).reads(1, "k : {x:a} a = [x] x.").tells(47, 0, 1, 3, 1, 1, 0).prints("{x0:a}a", "? k.").prints("a", "? k (k c1).").fails(8, "? k (^k).").fails(8, "? k c1 ^k.");
+        told(47).reads(1, "k : type.").tells(47, 1, 0, 1, 0, 0, -1).fails(6, "? ^k.").fails(6, "? ^k c1.");
+        told(47).fails(6, "k : {x:a} ^x.").fails(6, "k : {x:^c46} a.").reads(1, "k : a = c46.").prints("a", "? k.");
+    }
+
+    /** A variable is no type, and has its own type, however many are around it. */
+    private static void variablesOfEachLevel() {
+        for (int level = 0; level < 39; level++) {
+            String before = Desk.repeat("{y:a}", level);
+            desk().fails(6, "b : " + before + "{x:a} ^x.").fails(6, "b : " + before + "{x:a}" + Desk.repeat("{y:a}", 38 - level) + "^x.");
+            Desk d = desk().reads(2, "b : q c. e : " + before + "{x:q c}" + Desk.repeat("{y:a}", 39 - level) + "q c = "
+                    + Desk.repeat("[y]", level) + "[x]" + Desk.repeat("[y]", 39 - level) + "x.");
+            d.fails(9, "g : " + before + "{x:q c}" + Desk.repeat("{y:a}", 39 - level) + "q c = "
+                    + Desk.repeat("[y]", level) + "[x]" + Desk.repeat("[y]", 39 - level) + "^y.");
+        }
     }
 
     /** The first token of what is wrong: of S -> F that of S, of ( ) that in it. */
