@@ -230,6 +230,11 @@ public final class PromiseBoundTest {
         Desk.due("read() of no text", d.read(), 0);
         // a token is not joined over read(), either
         d.fails(2, "ab^").reads(1, "cd : type.").reads(1, "abcd : cd.");
+        // nor does a token reach into what an older text had there
+        d.reads(1, "e : a -> a.").fails(1, "g : a ^-").reads(1, "xyz : a.").fails(2, "xy^").reads(1, "? e.").fails(2, "? e^");
+        d.feed("g : a -> a.");
+        d.clear();
+        d.reads(1, "a:type.").fails(1, "g : a ^-");
     }
 
     private static void readKeepsWhatIsBeforeTheFault() {

@@ -79,6 +79,10 @@ public final class PuttingTest {
         d.prints("q (all ([x0]t (all ([x1]t x1 x0)) x0))", "i : {F:a -> a -> a} q (all ([y] F (all ([z] F z y)) y)). ? i ([u][v] t u v).");
         d.prints("q (all ([x0]t (all ([x1]all ([x2]t x1 x2))) x0))",
                 "j : {F:a -> a} q (F (all ([y] F y))). ? j ([x] all ([y] t x y)).");
+        // an argument whose own functions come to stand in others
+        d.prints("q (all ([x0]t x0 (all ([x1]t x1 x1))))", "m : {x:a} q (all ([z] t z x)). ? m (all ([y] t y y)).");
+        d.prints("q (all ([x0]t x0 (all ([x1]all ([x2]t x1 x2)))))", "? m (all ([y] all ([z] t y z))).");
+        d.reads(1, "n : {z:a} q (all ([y] t y (all ([w] t w z)))) = [x] m (all ([w] t w x)).");
         // a variable of the sentence in what is put there
         d.reads(1, "k : {z:a} q (all ([y] all ([w] t (t y z) w))) = [x] b ([y] all ([z] t (t y x) z)).");
         d.fails(9, "l : {z:a} q (all ([y] all ([w] t (t y w) z))) = [x] ^b ([y] all ([z] t (t y x) z)).");
